@@ -17,8 +17,9 @@ public final class IronRumours {
     private static final int NO_WAY = -1, NO_TELLING = -1, SOUND = -1, NOTHING = -1;
 
     private final Sheet[] sheets = new Sheet[SHEETS];
-    private final Tellings tellings = new Tellings();
-    private final Readings readings = new Readings();
+    private final Entries tellings = new Entries(MOST_TELLINGS);
+    private final Entries readings = new Entries(MOST_READINGS);
+    private final boolean[] readAsForged = new boolean[MOST_READINGS];
     private final Talk talk = new Talk();
     private final int[] forgeDays = new int[MOST_PERSONS * THINGS];
     private People people = new People();
@@ -96,18 +97,14 @@ public final class IronRumours {
         if (!isThingAndDay(thing, day)) {
             return OUTSIDE;
         }
-        if (tellings.many >= MOST_TELLINGS) {
+        if (tellings.isFull()) {
             return FULL;
         }
         return tellings.add(p, thing, day);
     }
 
     public int undo(int k) {
-        if (k < 0 || k > tellings.many) {
-            return OUTSIDE;
-        }
-        tellings.many -= k;
-        return tellings.many;
+        return tellings.takeBack(k);
     }
 
     public int law(int v) {
@@ -262,18 +259,15 @@ public final class IronRumours {
         if (refusal != 0) {
             return refusal;
         }
-        if (readings.many >= MOST_READINGS) {
+        if (readings.isFull()) {
             return FULL;
         }
-        return readings.add(p, thing, day, had);
+        readAsForged[readings.many] = had;
+        return readings.add(p, thing, day);
     }
 
     public int back(int k) {
-        if (k < 0 || k > readings.many) {
-            return OUTSIDE;
-        }
-        readings.many -= k;
-        return readings.many;
+        return readings.takeBack(k);
     }
 
     public int told(int thing, int day) {
@@ -619,22 +613,21 @@ public final class IronRumours {
 
     private boolean isReached(boolean byTelling, int set, int p, int thing, int day) {
         if (byTelling) {
-            tellOnFirstDay(set, thing);
-            return hasForged(p, thing, day);
+            startTelling(set, thing);
+        } else {
+            startTalk(NO_TELLING);
         }
-        startTalk(NO_TELLING);
-        talk.spread(people, hushedNow | set, NO_WAY);
-        return !hasForged(p, thing, day);
+        talk.spread(people, byTelling ? hushedNow : hushedNow | set, NO_WAY);
+        return hasForged(p, thing, day) == byTelling;
     }
 
-    private void tellOnFirstDay(int set, int thing) {
+    private void startTelling(int set, int thing) {
         talk.clear();
         for (int p = 0; p < people.persons; p++) {
             if (holds(set, p)) {
                 talk.plant(p, thing, p, 0);
             }
         }
-        talk.spread(people, hushedNow, NO_WAY);
     }
 
     private void keepForgeDays() {
@@ -658,7 +651,7 @@ public final class IronRumours {
 
     private boolean areReadingsSo() {
         for (int k = 0; k < readings.many; k++) {
-            if (hasForged(readings.person[k], readings.thing[k], readings.day[k]) != readings.had[k]) {
+            if (hasForged(readings.person[k], readings.thing[k], readings.day[k]) != readAsForged[k]) {
                 return false;
             }
         }
@@ -832,12 +825,22 @@ public final class IronRumours {
         }
     }
 
-    /** The TELLINGS, in their order. */
-    private static final class Tellings {
+    /** TELLINGS or READINGS: each of a PERSON, a THING and a DAY, numbered in their order. */
+    private static final class Entries {
+        // of READINGS there are fewer than of TELLINGS: rows for these hold either
         final int[] person = new int[MOST_TELLINGS];
         final int[] thing = new int[MOST_TELLINGS];
         final int[] day = new int[MOST_TELLINGS];
+        final int most;
         int many = 0;
+
+        Entries(int most) {
+            this.most = most;
+        }
+
+        boolean isFull() {
+            return many >= most;
+        }
 
         int add(int p, int ofThing, int onDay) {
             int k = many;
@@ -848,27 +851,16 @@ public final class IronRumours {
             return k;
         }
 
+        int takeBack(int k) {
+            if (k < 0 || k > many) {
+                return OUTSIDE;
+            }
+            many -= k;
+            return many;
+        }
+
         boolean has(int k, int p, int ofThing) {
             return isBelow(k, many) && person[k] == p && thing[k] == ofThing;
-        }
-    }
-
-    /** The READINGS, in their order. */
-    private static final class Readings {
-        final int[] person = new int[MOST_READINGS];
-        final int[] thing = new int[MOST_READINGS];
-        final int[] day = new int[MOST_READINGS];
-        final boolean[] had = new boolean[MOST_READINGS];
-        int many = 0;
-
-        int add(int p, int ofThing, int onDay, boolean hadForged) {
-            int k = many;
-            person[k] = p;
-            thing[k] = ofThing;
-            day[k] = onDay;
-            had[k] = hadForged;
-            many = k + 1;
-            return k;
         }
     }
 
@@ -951,9 +943,9 @@ public final class IronRumours {
 
         private static long asOnesOwn(int p, long news) {
             long own = 0;
-            for (int thing = 0; thing < THINGS; thing++) {
-                if ((news >> thing * ORIGINS & ONE_THING) != 0) {
-                    own |= rumour(thing, LIARS_ORIGIN + p);
+            for (int shift = 0; shift < ORIGINS * THINGS; shift += ORIGINS) {
+                if ((news >> shift & ONE_THING) != 0) {
+                    own |= 1L << shift + LIARS_ORIGIN + p;
                 }
             }
             return own;

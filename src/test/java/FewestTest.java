@@ -215,6 +215,18 @@ public final class FewestTest {
             Check.due("worth(" + k + ") by the law", y.worth(k), 101);
         }
         Check.due("many(2)", y.many(2), 3);
+        y.law(1);
+        y.undo(3);
+        y.telling(0, 0, 59);
+        Check.due("worth of what is forged on the last day", y.worth(0), 101);
+        y.telling(0, 0, 3);
+        Check.due("worth of what is forged on the last day without it", y.worth(1), 100);
+        IronRumours z = Check.withText("it0t1;011");
+        z.law(1);
+        z.telling(0, 0, 0);
+        z.telling(1, 1, 0);
+        z.hush(0, true);
+        Check.due("worth(1) where 0 is hushed", z.worth(1), 101);
     }
 
     private static void spare() {
@@ -236,5 +248,13 @@ public final class FewestTest {
         IronRumours y = Check.withText("it0t0t0;011;121");
         y.telling(0, 0, 0);
         Check.due("no smiths", y.spare(), 3);
+        IronRumours z = Check.withText("it1t0;101;109");
+        z.law(1);
+        z.telling(1, 0, 0);
+        Check.due("wanted by person 0", z.spare(), 2);
+        for (int day = 0; day < 59; day++) {
+            z.fog(day, true);
+        }
+        Check.due("on the last day either will do", z.spare(), 3);
     }
 }

@@ -195,6 +195,13 @@ public final class PassTest {
         Check.due("ofPerson(0, 1)", x.ofPerson(0, 1), 1);
         Check.due("ofWay(1, 2)", x.ofWay(1, 2), 3);
         Check.due("forges(0, 2)", x.forges(0, 2), 6);
+        Check.takeText(x, 0, 0, "il1l1l1;001;001;00");
+        Check.due("a text behind a faulty one", Check.takeText(x, 0, 0, "it0t0t0;121"), 3);
+        Check.due("many(1)", x.many(1), 1);
+        for (int p = 0; p < 3; p++) {
+            Check.due("ofPerson(" + p + ", 0)", x.ofPerson(p, 0), 0);
+            Check.due("ofPerson(" + p + ", 1)", x.ofPerson(p, 1), 0);
+        }
     }
 
     private static void persons() {

@@ -118,6 +118,11 @@ public final class ReadingsTest {
         Check.due("a third in time", x.told(1, 2), 4);
         Check.due("a third too late", x.told(1, 3), 0);
         Check.due("a third by the liar is no third", x.told(0, 1), 0);
+        IronRumours y = Check.withText("it1t0t0t0t0l0;501");
+        y.law(2);
+        y.telling(5, 0, 0);
+        y.reading(0, 1, 59, true);
+        Check.due("one more is unlike the last liar's", y.told(1, 0), 1);
     }
 
     private static void mute() {
@@ -187,6 +192,8 @@ public final class ReadingsTest {
         Check.due("the third on day 2", x.rows(0, 0, 2, 1, 3), 1);
         x.fog(2, true);
         Check.due("in fog", x.rows(0, 0, 2, 1, 3), 0);
+        x.fog(59, false);
+        Check.due("on the last day", x.rows(0, 0, 2, 1, 3), 2);
     }
 
     private static void rowsOfLanes() {
