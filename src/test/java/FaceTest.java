@@ -17,6 +17,9 @@ public final class FaceTest {
         "int put(int, int, int)", "long cell(int, int, int)", "int copy(int, int, int, int, int)", "int tell(int)",
         "int greet(int)", "int as(int, int)", "int trace()", "int fault()", "int many(int)");
 
+    private static final List<Class<?>> CONSTANTS = List.of(int.class, long.class, boolean.class, char.class,
+        String.class, int[].class, long[].class, char[].class, byte[].class);
+
     private FaceTest() {
     }
 
@@ -88,7 +91,7 @@ public final class FaceTest {
         int fields = 0;
         for (Field f : part.getDeclaredFields()) {
             if (Modifier.isStatic(f.getModifiers())) {
-                yes(f + " is a number", f.getType() == int.class || f.getType() == long.class);
+                yes(f + " is a constant", f.isSynthetic() || f.getType() == part || CONSTANTS.contains(f.getType()));
             } else {
                 fields++;
             }

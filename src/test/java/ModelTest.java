@@ -1,7 +1,8 @@
 /** Long runs of calls, each asked of the program and of the model: all promises at once, wild numbers, too. */
 public final class ModelTest {
-    private static final int RUNS = 1500;
-    private static final int CALLS = 400;
+    private static final int RUNS = 3000;
+    /** A text takes 62 calls at most, what is asked behind it 4 more: no run comes above the calls that are promised. */
+    private static final int CALLS = Run.MOST_CALLS - 62 - 4;
     private static final int[] WILD = {Integer.MIN_VALUE, Integer.MIN_VALUE + 1, -100, -2, -1, 60, 61, 1 << 16,
         Integer.MAX_VALUE - 1, Integer.MAX_VALUE};
 
@@ -9,6 +10,7 @@ public final class ModelTest {
     private final IronRumours x = new IronRumours();
     private final Model m = new Model();
     private final StringBuilder calls = new StringBuilder();
+    private int asked = 0;
 
     private ModelTest(long seed) {
         this.seed = seed * 7919 + 17;
@@ -22,30 +24,28 @@ public final class ModelTest {
     }
 
     private void run(int run) {
-        int made = 0;
         if (run % 8 != 0) {
-            made += giveText(some(4), some(3), text(run % 5 == 0), 0);
+            giveText(some(4), some(3), text(run % 5 == 0), 0);
         }
         if (run % 3 == 0) {
             law(1 + some(2));
         }
-        while (made < CALLS) {
+        while (asked <= CALLS) {
             if (some(150) == 0) {
-                made += giveText(some(4), some(3), text(some(2) == 0), some(4));
+                giveText(some(4), some(3), text(some(2) == 0), some(4));
             }
             call(some(40));
-            made++;
         }
+        Check.due("more calls than are promised", Math.max(asked, Run.MOST_CALLS), Run.MOST_CALLS);
     }
 
-    private int giveText(int k, int lane, String text, int ahead) {
+    private void giveText(int k, int lane, String text, int ahead) {
         int length = Math.min(60, text.length() + ahead);
         ask("sheet", k, lane, length);
         for (int i = ahead; i < length; i++) {
             ask("put", k, i, text.charAt(i - ahead));
         }
         ask("pass", k, lane, ahead, length - ahead);
-        return length + 2;
     }
 
     private String text(boolean faulty) {
@@ -110,10 +110,13 @@ public final class ModelTest {
             }
         }
         ask("fault");
-        ask("trace");
+        if (some(5) == 0) {
+            ask("trace");
+        }
     }
 
     private void ask(String name, int... a) {
+        asked++;
         calls.setLength(0);
         calls.append(name);
         for (int number : a) {
