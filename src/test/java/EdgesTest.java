@@ -25,6 +25,7 @@ public final class EdgesTest {
         readings();
         told();
         mute();
+        hushedAlready();
         paths();
         Check.end("EdgesTest");
     }
@@ -282,6 +283,14 @@ public final class EdgesTest {
             "each alone", "mute = 1", "back 1 = 0", "reading 5 0 2 0 = 0", "mute = 0", "hush 1 1 = 1", "mute = 1",
             "hush 0 1 = 1", "mute = 63", "ofPerson 2 2 = 0", "hush 1 0 = 1", "mute = 2", "back 1 = 0",
             "reading 5 0 1 0 = 0", "mute = 63", "reading 5 0 2 1 = 1", "mute = 61");
+    }
+
+    /** Hushed, too: of who is hushed already it is as it is, with a reading that is so, and with one that is not. */
+    private static void hushedAlready() {
+        Run.of("text 3 2 it0t0t1;021;121", "law 1", "telling 0 0 0", "telling 1 0 3", "hush 0 1").due("hushed already",
+            "reading 2 0 3 0 = 0", "mute = 7", "reading 2 0 4 1 = 1", "mute = 5", "hush 0 0 = 1", "mute = 1",
+            "hush 0 1 = 1", "mute = 5", "back 1 = 1", "reading 2 0 4 0 = 1", "mute = 2", "hush 1 1 = 1", "mute = 7",
+            "ofPerson 2 2 = 0", "back 1 = 1", "reading 2 0 59 1 = 1", "mute = 0");
     }
 
     private static void paths() {

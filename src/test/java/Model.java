@@ -442,12 +442,10 @@ final class Model {
         if (lane(source) != lane(goal)) {
             return meets("CAST");
         }
-        // the machine's own copy tells whether it goes
-        try {
-            System.arraycopy(source, i, goal, j, n);
-        } catch (IndexOutOfBoundsException e) {
+        if (i < 0 || j < 0 || n < 0 || (long) i + n > size(source) || (long) j + n > size(goal)) {
             return meets("INDEX");
         }
+        System.arraycopy(source, i, goal, j, n);
         return n;
     }
 
